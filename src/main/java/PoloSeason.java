@@ -830,7 +830,7 @@ public final class PoloSeason {
             for (int i = 0; i < ponyCount; i++) {
                 due[i] = 0;
                 spare[i] = false;
-                for (int ride = 0; ride < capacity[i] && rides > 0; ride++) {
+                for (int ride = 0; ride < capacity[i]; ride++) {
                     int level = levels[i] + ride * MINUTES_A_CHUKKA;
                     if (level < threshold) {
                         due[i]++;

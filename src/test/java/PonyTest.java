@@ -61,6 +61,10 @@ public final class PonyTest {
         check.state("pony(8), the 61st", () -> x.pony(8));
         check.index("pony(9), full", () -> x.pony(9));
         check.same("count(2)", x.count(2), 60);
+        check.same("rest(), 60 ponies", x.rest(), 1);
+        mountsAre(check, x, 0, 0, 1, 2, 3, 4, 5);
+        mountsAre(check, x, 7, 56, 57, 56, 57, 58, 59);
+        mountsAre(check, x, 8, -1, -1);
     }
 
     private static void lameness(Check check) {
@@ -151,41 +155,32 @@ public final class PonyTest {
         mountsAre(check, x, 0, 0, 1, 0, 1);
     }
 
-    /** Ponies led 14, 7, 0 where the last has one ride left: {21, 14, 7} comes with and without a ride of the first. */
+    /** All of the player's ponies are compared, not the ridden ones alone. */
     private static void unriddenPoniesCount(Check check) {
         PoloSeason x = drawnTeams(4);
-        x.pony(0);
-        x.play(1, 0);
-        x.rest();
-        x.lame(0, 9);
-        for (int pony = 1; pony <= 5; pony++) {
+        for (int pony = 0; pony <= 2; pony++) {
             x.pony(0);
         }
-        // now 1, 2, 1, 1 as 3, 4 and 5 are lame: 7 of 1 and 2 each come to 14 on day 1
-        x.lame(3, 9);
-        x.lame(4, 9);
-        x.lame(5, 9);
         x.play(1, 0);
-        check.same("told(1, 1)", x.told(1, 1), 14);
-        check.same("told(2, 1)", x.told(2, 1), 14);
         x.rest();
-        x.lame(2, 9);
-        x.lame(1, 9);
-        x.lame(3, 0);
-        x.lame(4, 0);
-        x.lame(5, 0);
-        drawAnew(x, 4);
+        for (int pony = 0; pony <= 2; pony++) {
+            x.lame(pony, 9);
+        }
+        for (int pony = 3; pony <= 6; pony++) {
+            x.pony(0);
+        }
         x.play(1, 0);
-        check.same("told(3, 1)", x.told(3, 1), 14);
-        check.same("told(4, 1)", x.told(4, 1), 7);
-        check.same("told(5, 1)", x.told(5, 1), 7);
-        x.rest();
-        x.lame(4, 9);
-        x.lame(3, 0);
-        // 3 is led 14 and 5 is led 7: 3 chukkas end at 21 and 21 by 3 5 3 not, by 5 3 5 so
-        mountsAre(check, x, 0, 5, 3, 5);
-        // 2 chukkas: each once, {21, 14}
-        mountsAre(check, x, 0, 3, 5);
+        for (int pony = 4; pony <= 6; pony++) {
+            x.lame(pony, 9);
+        }
+        x.lame(0, 0);
+        x.lame(1, 0);
+        int[] led = {14, 7, 7, 7, 7, 7, 7};
+        for (int pony = 0; pony < led.length; pony++) {
+            check.same("told(" + pony + ", 1)", x.told(pony, 1), led[pony]);
+        }
+        // 3 has one ride left; 0 1 3 and 1 3 1 both leave 0, 1 and 3 with 21, 14, 14 in some order
+        mountsAre(check, x, 0, 0, 1, 3);
     }
 
     private static void matches(Check check) {
