@@ -53,9 +53,13 @@ public final class FaceTest {
             boolean isPrivate = Modifier.isPrivate(field.getModifiers());
             check.yes("only NONE is seen: " + field.getName(), isPrivate != field.getName().equals("NONE"));
         }
+        namesApart(check, PoloSeason.class);
+        fewFields(check, PoloSeason.class);
         for (Class<?> inside : PoloSeason.class.getDeclaredClasses()) {
             int modifiers = inside.getModifiers();
             check.yes(inside + " is static and not public", Modifier.isStatic(modifiers) && !Modifier.isPublic(modifiers));
+            namesApart(check, inside);
+            fewFields(check, inside);
         }
         Constructor<?>[] constructors = PoloSeason.class.getDeclaredConstructors();
         check.same("constructors", constructors.length, 1);
@@ -64,6 +68,28 @@ public final class FaceTest {
         check.same("NONE", PoloSeason.NONE, -1);
         check.yes("public final", PoloSeason.class.getModifiers() == (Modifier.PUBLIC | Modifier.FINAL));
         check.finish("FaceTest");
+    }
+
+    private static void namesApart(Check check, Class<?> part) {
+        for (Method method : part.getDeclaredMethods()) {
+            for (String face : FACE) {
+                boolean same = face.contains(" " + method.getName() + "(");
+                check.yes("only the face's method bears its name: " + method, !same || Modifier.isPublic(method.getModifiers()));
+            }
+        }
+    }
+
+    /** Static fields are constants of int here; beside these a class has some twenty fields at most. */
+    private static void fewFields(Check check, Class<?> part) {
+        int fields = 0;
+        for (Field field : part.getDeclaredFields()) {
+            if (!Modifier.isStatic(field.getModifiers())) {
+                fields++;
+                continue;
+            }
+            check.yes(field + " is a constant", Modifier.isFinal(field.getModifiers()) && field.getType() == int.class);
+        }
+        check.yes(part + " has " + fields + " fields", fields <= 20);
     }
 
     private static String told(Method method) {
